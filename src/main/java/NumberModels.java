@@ -27,6 +27,7 @@ public final class NumberModels {
   private static final int DOUBLED = 10;
   private static final int LESSER = 11;
   private static final int GREATER = 12;
+  private static final int LAST_TO_REDUCE = REST_CUT;
   private static final int MOST_POWER = 300;
   private static final int MOST_DOUBLINGS = 600;
 
@@ -56,7 +57,7 @@ public final class NumberModels {
     held = 0;
   }
 
-  /** Promise 2. */
+  /** Promise 2: a WHOLE one. */
   public int whole(long v) throws IllegalStateException {
     made.side = Long.compare(v, 0L);
     made.top.take(sizeOf(v));
@@ -64,7 +65,7 @@ public final class NumberModels {
     return keep();
   }
 
-  /** Promise 3. */
+  /** Promise 3: p / q. */
   public int fraction(long p, long q) throws ArithmeticException, IllegalStateException {
     if (q == 0) {
       throw new ArithmeticException("q is 0");
@@ -76,7 +77,7 @@ public final class NumberModels {
     return keep();
   }
 
-  /** Promise 4. */
+  /** Promise 4: what a double is. */
   public int real(long bits) throws ArithmeticException, IllegalStateException {
     if (!Format.DOUBLE.isFinite(bits)) {
       throw new ArithmeticException("infinite, or no number");
@@ -88,7 +89,7 @@ public final class NumberModels {
     return keep();
   }
 
-  /** Promise 5. */
+  /** Promise 5: what an ACT makes of two NUMBERS. */
   public int act(int act, int a, int b)
       throws IndexOutOfBoundsException, IllegalArgumentException, ArithmeticException, IllegalStateException {
     needNumber(a);
@@ -98,22 +99,25 @@ public final class NumberModels {
     needFitting(act);
     needDivisor(act);
     perform(act);
+    if (act <= LAST_TO_REDUCE) {
+      reduce();
+    }
     return keep();
   }
 
-  /** Promise 6. */
+  /** Promise 6: all are gone. */
   public int clear() {
     int gone = held;
     held = 0;
     return gone;
   }
 
-  /** Promise 7. */
+  /** Promise 7: how many there are. */
   public int count() {
     return held;
   }
 
-  /** Promise 8. */
+  /** Promise 8: a word of P without its sign, or of Q. */
   public long word(int a, int k) throws IndexOutOfBoundsException {
     needNumber(a);
     if (k < 0 || k >= NUMBER_WORDS) {
@@ -122,20 +126,20 @@ public final class NumberModels {
     return words[a * NUMBER_WORDS + k];
   }
 
-  /** Promise 9. */
+  /** Promise 9: the sign of a NUMBER. */
   public int sign(int a) throws IndexOutOfBoundsException {
     needNumber(a);
     return sides[a];
   }
 
-  /** Promise 10. */
+  /** Promise 10: how many bits P or Q has. */
   public int bits(int a, boolean ofP) throws IndexOutOfBoundsException {
     needNumber(a);
     read(a, first);
     return ofP ? first.top.length() : first.bottom.length();
   }
 
-  /** Promise 11. */
+  /** Promise 11: the lowest bits of CUT of a NUMBER. */
   public long wrap(int a, int bits, boolean signed) throws IndexOutOfBoundsException, IllegalArgumentException {
     needNumber(a);
     if (bits < 1 || bits > LONG_BITS) {
@@ -149,7 +153,7 @@ public final class NumberModels {
     return signed ? lifted >> above : lifted >>> above;
   }
 
-  /** Promise 12. */
+  /** Promise 12: two NUMBERS beside each other. */
   public int order(int a, int b) throws IndexOutOfBoundsException {
     needNumber(a);
     needNumber(b);
@@ -158,7 +162,7 @@ public final class NumberModels {
     return compareRead();
   }
 
-  /** Promise 13. */
+  /** Promise 13: a NUMBER beside a double. */
   public int meets(int a, long bits) throws IndexOutOfBoundsException {
     needNumber(a);
     if (Format.DOUBLE.isNoNumber(bits)) {
@@ -172,7 +176,7 @@ public final class NumberModels {
     return side == 0 ? 0 : side * compareSizeWith(bits);
   }
 
-  /** Promise 14. */
+  /** Promise 14: the double of a NUMBER. */
   public long nearest(int a, int direction) throws IndexOutOfBoundsException, IllegalArgumentException {
     needNumber(a);
     needDirection(direction);
@@ -180,7 +184,7 @@ public final class NumberModels {
     return formatRead(Format.DOUBLE, direction);
   }
 
-  /** Promise 15. */
+  /** Promise 15: the float of a NUMBER. */
   public int single(int a, int direction) throws IndexOutOfBoundsException, IllegalArgumentException {
     needNumber(a);
     needDirection(direction);
@@ -188,7 +192,7 @@ public final class NumberModels {
     return (int) formatRead(Format.FLOAT, direction);
   }
 
-  /** Promise 16. */
+  /** Promise 16: what the machine makes of doubles. */
   public long machine(int kind, long x, long y) throws IllegalArgumentException {
     switch (kind) {
       case 0:
@@ -218,7 +222,7 @@ public final class NumberModels {
     }
   }
 
-  /** Promise 17. */
+  /** Promise 17: what the machine casts a double to. */
   public long cast(int kind, long x) throws IllegalArgumentException {
     switch (kind) {
       case 0:
@@ -304,19 +308,15 @@ public final class NumberModels {
     switch (act) {
       case SUM:
         add(second.side);
-        reduce();
         break;
       case DIFFERENCE:
         add(-second.side);
-        reduce();
         break;
       case PRODUCT:
         multiply(second.top, second.bottom);
-        reduce();
         break;
       case QUOTIENT:
         multiply(second.bottom, second.top);
-        reduce();
         break;
       case QUOTIENT_DOWN:
       case QUOTIENT_CUT:
@@ -327,7 +327,6 @@ public final class NumberModels {
       case REST_CUT:
         divide();
         takeRest(act == REST_DOWN);
-        reduce();
         break;
       case COMMON_DIVISOR:
         common.find(first.top, second.top);
@@ -446,19 +445,19 @@ public final class NumberModels {
     if (!Format.DOUBLE.isFinite(bits)) {
       return -1;
     }
-    made.top.take(Format.DOUBLE.significand(bits));
+    left.take(Format.DOUBLE.significand(bits));
+    right.takeProduct(left, first.bottom);
     left.take(first.top);
-    right.takeProduct(made.top, first.bottom);
     int scale = Format.DOUBLE.scale(bits);
-    int shiftLeft = Math.max(-scale, 0);
-    int shiftRight = Math.max(scale, 0);
-    int order = Integer.compare(left.length() + shiftLeft, right.length() + shiftRight);
-    if (order != 0) {
-      return order;
+    int upLeft = Math.max(-scale, 0);
+    int upRight = Math.max(scale, 0);
+    int byLength = Integer.compare(left.length() + upLeft, right.length() + upRight);
+    if (byLength != 0) {
+      return byLength;
     }
-    // Of the same length now, so the shifted one is no longer than the other: it has room.
-    left.shiftUp(shiftLeft);
-    right.shiftUp(shiftRight);
+    // Shifted, the one is just as long as the other: there is room for it.
+    left.shiftUp(upLeft);
+    right.shiftUp(upRight);
     return left.compareWith(right);
   }
 
