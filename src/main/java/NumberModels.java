@@ -59,7 +59,7 @@ public final class NumberModels {
 
   /** Promise 2: a WHOLE one. */
   public int whole(long v) throws IllegalStateException {
-    made.side = Long.compare(v, 0L);
+    made.side = compare(v, 0L);
     made.top.take(sizeOf(v));
     made.bottom.take(1L);
     return keep();
@@ -70,7 +70,7 @@ public final class NumberModels {
     if (q == 0) {
       throw new ArithmeticException("q is 0");
     }
-    made.side = Long.compare(p, 0L) * Long.compare(q, 0L);
+    made.side = compare(p, 0L) * compare(q, 0L);
     made.top.take(sizeOf(p));
     made.bottom.take(sizeOf(q));
     reduce();
@@ -171,7 +171,7 @@ public final class NumberModels {
     read(a, first);
     int side = Format.DOUBLE.sizeOf(bits) == 0 ? 0 : Format.DOUBLE.sideOf(bits);
     if (first.side != side) {
-      return Integer.compare(first.side, side);
+      return compare(first.side, side);
     }
     return side == 0 ? 0 : side * compareSizeWith(bits);
   }
@@ -433,7 +433,7 @@ public final class NumberModels {
 
   private int compareRead() {
     if (first.side != second.side) {
-      return Integer.compare(first.side, second.side);
+      return compare(first.side, second.side);
     }
     left.takeProduct(first.top, second.bottom);
     right.takeProduct(second.top, first.bottom);
@@ -451,7 +451,7 @@ public final class NumberModels {
     int scale = Format.DOUBLE.scale(bits);
     int upLeft = Math.max(-scale, 0);
     int upRight = Math.max(scale, 0);
-    int byLength = Integer.compare(left.length() + upLeft, right.length() + upRight);
+    int byLength = compare(left.length() + upLeft, right.length() + upRight);
     if (byLength != 0) {
       return byLength;
     }
@@ -473,6 +473,14 @@ public final class NumberModels {
     division.run(left, right);
     boolean rest = !division.remainder.isZero();
     return format.encode(first.side < 0, division.quotient.lowest(), -shift, rest, direction);
+  }
+
+  /** -1, 0 or 1: the library promises no more of its own ones than the sign. */
+  private static int compare(long a, long b) {
+    if (a == b) {
+      return 0;
+    }
+    return a < b ? -1 : 1;
   }
 
   /** Without its sign; of the least long 2^63, as a long without sign has it. */
@@ -604,11 +612,11 @@ public final class NumberModels {
 
     int compareWith(Natural other) {
       if (size != other.size) {
-        return Integer.compare(size, other.size);
+        return compare(size, other.size);
       }
       for (int i = size - 1; i >= 0; i--) {
         if (words[i] != other.words[i]) {
-          return Long.compare(words[i], other.words[i]);
+          return compare(words[i], other.words[i]);
         }
       }
       return 0;
@@ -1141,7 +1149,7 @@ public final class NumberModels {
       if (format.sizeOf(x) == 0 && format.sizeOf(y) == 0) {
         return 2L;
       }
-      return 2L + Long.compare(rank(x), rank(y));
+      return 2L + compare(rank(x), rank(y));
     }
 
     static long toLong(long x) {

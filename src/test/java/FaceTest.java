@@ -36,8 +36,7 @@ public final class FaceTest {
     "long cast(int, long) IllegalArgumentException",
   };
 
-  private static final Set<String> LIBRARY = Set.of(
-      "Math.max", "Math.min", "Math.abs", "Long.compare", "Integer.compare", "System.arraycopy");
+  private static final Set<String> LIBRARY = Set.of("Math.max", "Math.min", "Math.abs", "System.arraycopy");
 
   private static final Set<String> EXCEPTIONS = Set.of(
       "IllegalStateException", "IllegalArgumentException", "IndexOutOfBoundsException", "ArithmeticException");
