@@ -94,6 +94,12 @@ final class ActSentences {
     s.refusesAct(Sentences.TOO_MUCH, 9, "3", "162");
     s.refusesAct(Sentences.TOO_MUCH, 9, "1/2", "-256");
     s.refusesAct(Sentences.TOO_MUCH, 9, GREATEST, "300");
+    // Far too great, with all lower words 0.
+    for (String a : new String[] {"-2^64", "2^85+2^84", "2^127", "2^128", "-2^255", "2^256-2^203"}) {
+      for (String b : new String[] {"4", "6", "7", "-6", "299", "300", "-300"}) {
+        s.refusesAct(Sentences.TOO_MUCH, 9, a, b);
+      }
+    }
     s.refusesAct(Sentences.TOO_MUCH, 10, "1", "256");
     s.refusesAct(Sentences.TOO_MUCH, 10, "-2^255", "1");
     s.refusesAct(Sentences.TOO_MUCH, 10, GREATEST, "600");

@@ -103,6 +103,9 @@ final class MachineSentences {
     makes(0, SMALLEST_NORMAL, SMALLEST_NORMAL - 1, SMALLEST);
     // 2^2097 is 2 by 3, so that 2^1023 leaves 2 times the smallest one by 3 times that.
     makes(0, Sentences.bits(0x1p1023), 3L, 2L);
+    // 2^53 is 1 by 2^53 - 1, so that 2^2097 is 2^30.
+    makes(0, Sentences.bits(0x1p1023), 0x001fffffffffffffL, 1L << 30);
+    makes(0, GREATEST, 0x001fffffffffffffL, ZERO);
     makes(0, GREATEST, Sentences.bits(0x1p1023), Sentences.bits(0x1.ffffffffffffep1022));
   }
 
@@ -260,14 +263,19 @@ final class MachineSentences {
     makes(9, GREATEST, 1, INFINITE);
     makes(9, LEAST, 1, BELOW_INFINITE);
     makes(9, Sentences.bits(1), 1023, Sentences.bits(0x1p1023));
-    makes(9, Sentences.bits(1), 1024, INFINITE);
+    for (long n = 1024; n <= 3000; n++) {
+      makes(9, Sentences.bits(1), n, INFINITE);
+      makes(9, Sentences.bits(-1), n, BELOW_INFINITE);
+    }
+    for (long n = -1075; n >= -3000; n--) {
+      makes(9, Sentences.bits(1), n, ZERO);
+      makes(9, Sentences.bits(-1), n, BELOW_ZERO);
+    }
     makes(9, SMALLEST, 2097, Sentences.bits(0x1p1023));
     makes(9, SMALLEST, 2098, INFINITE);
     makes(9, SMALLEST_NORMAL - 1, 1074, Sentences.bits(0x1p52 - 1));
     makes(9, SMALLEST_NORMAL, 1074, Sentences.bits(0x1p52));
     makes(9, Sentences.bits(1), -1074, SMALLEST);
-    makes(9, Sentences.bits(1), -1075, ZERO);
-    makes(9, Sentences.bits(-1), -1075, BELOW_ZERO);
     makes(9, Sentences.bits(Math.nextUp(1.0)), -1075, SMALLEST);
     makes(9, Sentences.bits(-Math.nextUp(1.0)), -1075, BELOW_SMALLEST);
     makes(9, Sentences.bits(Math.nextDown(1.0)), -1074, SMALLEST);
