@@ -30,24 +30,24 @@ public final class ReadmeTest {
   public static void main(String[] args) throws IOException, InterruptedException, ReflectiveOperationException {
     ReadmeTest test = new ReadmeTest(Files.readString(README));
     Path scratch = Files.createTempDirectory("readme");
-    try {
-      test.everyMethodIsShown();
-      test.acts();
-      test.directions();
-      test.machine();
-      test.casts();
-      test.testsAreNamed();
-      test.commands(scratch);
-      test.program(scratch);
-    } finally {
-      delete(scratch);
-    }
+    // Not by finally: an answer that is not as due ends the machine before that.
+    Runtime.getRuntime().addShutdownHook(new Thread(() -> delete(scratch)));
+    test.everyMethodIsShown();
+    test.acts();
+    test.directions();
+    test.machine();
+    test.casts();
+    test.testsAreNamed();
+    test.commands(scratch);
+    test.program(scratch);
     test.due.end();
   }
 
-  private static void delete(Path directory) throws IOException {
+  private static void delete(Path directory) {
     try (Stream<Path> all = Files.walk(directory)) {
       all.sorted(Comparator.reverseOrder()).map(Path::toFile).forEach(File::delete);
+    } catch (IOException e) {
+      System.out.println(directory + " is left: " + e);
     }
   }
 
